@@ -1,6 +1,10 @@
 import java.util.Arrays;
 
-/** Rights in land, moves of courts told as texts, and searches for rows of moves; see README.md. */
+/**
+ * Rights in land, moves of courts told as texts, and searches for rows of moves; see README.md.
+ *
+ * <p>A state is a set of rights, right A as bit 0; sets of people, stops, wishes and moves are bits likewise.
+ */
 public final class FeignedSuit {
     public static final int NONE = -1;
 
@@ -317,7 +321,7 @@ public final class FeignedSuit {
             return NONE;
         }
         terms.stops = (1 << land.told[STOP]) - 1;
-        // What leads with all stops in force leads with any of them.
+        // What all stops together do not bar, none of their sets bars.
         if (hunt.whole(land, terms) != NONE_LEADS) {
             return NO_ANSWER;
         }
@@ -396,7 +400,7 @@ public final class FeignedSuit {
     /** The set with fewest people that suffices, under the terms as they are; NO_ANSWER if none does. */
     private int fewestNames(int names) {
         long all = terms.moves;
-        // What does not lead with all moves leads with none of them left out.
+        // What none of all moves leads to, none of fewer moves leads to.
         if (hunt.whole(land, terms) == NONE_LEADS) {
             return NO_ANSWER;
         }
