@@ -604,6 +604,8 @@ public final class PromisesTest {
         due("a move that all may turn at", Told.tell(y, MOVE, "give K;turn 7"), 9);
         due("found ahead of the 501st", y.safe(0, 0, 0, 128), 1);
         due("spent", y.safe(0, 0, 0, 0), -3);
+        due("trust is for that call alone", y.reached(0, 0, 0), 2);
+        due("and no matter for keys", y.keys(0, 0, 0), 0);
     }
 
     private static void keys() {
@@ -614,6 +616,9 @@ public final class PromisesTest {
         due("three of five", x.keys(0, 0, 0), 1 | 2 | 8);
         x.open(1, 5, 5);
         due("all, if it is not reached at all", x.keys(0, 0, 0), 31);
+        FeignedSuit z = wide(9, "K");
+        due("spent with all, and not without any one", z.reached(0, 0, 0), 4);
+        due("each of them then", z.keys(0, 0, 0), 511);
         FeignedSuit y = wide(10, "K");
         due("none, if spent", y.keys(0, 0, 0), 0);
         for (int i = 10; i < 40; i++) {
@@ -797,6 +802,7 @@ public final class PromisesTest {
         due("rolls", x.count(4), 1);
         due("the tape stays", x.count(5), 20);
         due("years", x.may(0, 9, 0, 1), 1);
+        due("years", x.may(0, 4, 0, 1), 0);
         due("force", x.force(0), 0);
         due("holds", x.holds(0, 3), 3);
         due("enter", x.enter(0, 1), 2);
@@ -813,6 +819,7 @@ public final class PromisesTest {
         due("back again", x.back(3), 2);
         due("a mark is not changed by what comes behind", x.judged(0, 0), 1);
         due("the search there", x.sought(2), 0);
+        searchesBehindMarks();
         FeignedSuit y = suit(new String[] {"give B"}, "have A", "B");
         due("mark ahead of any search", y.mark(1), 1);
         y.search(0, 0, 0, -1);
@@ -825,6 +832,31 @@ public final class PromisesTest {
         due("go", y.go(1), -1);
         due("met", y.met(0), -1);
         due("row", y.row(0), -1);
+    }
+
+    private static void searchesBehindMarks() {
+        FeignedSuit x = suit(new String[] {"give B", "end B;give A", "give C", "need B and C;give D"}, "have A", "X");
+        Told.tell(x, GIFT, "have B;stop C");
+        Told.tell(x, WISH, "B");
+        x.open(2, 5, 5);
+        x.open(3, 5, 5);
+        x.search(0, 0, 5, -1);
+        due("go", x.go(1), 1);
+        due("met", x.sought(1), 3);
+        x.mark(2);
+        x.search(1, 1, 0, 1 << 20);
+        x.back(2);
+        due("the states met are met still", x.go(9), 5);
+        due("none twice", x.sought(1), 6);
+        due("none leads", x.sought(0), 3);
+        int[] states = {1, 3, 5, 7, 15, 13};
+        for (int k = 0; k < states.length; k++) {
+            due("by gift and year of the mark's search, met(" + k + ")", x.met(k), states[k]);
+        }
+        x.back(2);
+        x.search(0, 0, 0, -1);
+        due("a new search in another year", x.go(9), 2);
+        due("has none of the old states", x.sought(1), 2);
     }
 
     private static void counts() {
