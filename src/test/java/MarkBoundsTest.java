@@ -19,7 +19,10 @@ public final class MarkBoundsTest {
         forceAsItWas();
         holdersAsTheyWere();
         rollsAsTheyWere();
+        rollsInTheirPlaces();
         searchAsItWas();
+        searchByItsOwnTerms();
+        rowAsItWas();
         searchSpentAsItWas();
         noSearchAsItWas();
         tapeStays();
@@ -271,6 +274,102 @@ public final class MarkBoundsTest {
         Due.is("has no moves", x.judged(1, 0), 0);
         Due.is("has its own gift", x.judged(1, 1), Suits.X);
         Due.is("has room", x.enter(1, 0), 1);
+    }
+
+    private static void rollsInTheirPlaces() {
+        Due.says("ROLLS, the SEARCH, as they are; gone back to, these are as they were");
+        FeignedSuit x = Suits.suit(new String[] {"give A", "give B", "give C"}, "have X", "B");
+        Told.tell(x, GIFT, "have W");
+        x.open(2, 5, 5);
+        x.mark(0);
+        x.roll(0, 5);
+        x.enter(0, 0);
+        x.enter(0, 2);
+        x.mark(1);
+        x.back(0);
+        x.roll(1, 4);
+        x.enter(0, 1);
+        x.enter(0, 1);
+        x.enter(0, 2);
+        x.mark(2);
+        for (int i = 0; i < 2; i++) {
+            Due.is("back", x.back(1), 3);
+            Due.is("its moves and its year", x.judged(0, 0), 2);
+            Due.is("its gift and its moves", x.judged(0, 1), Suits.X | 5);
+            Due.is("none behind them", x.enter(0, 1), 3);
+            Due.is("back", x.back(2), 3);
+            Due.is("its moves", x.judged(0, 0), 1);
+            Due.is("its gift and its moves", x.judged(0, 1), 1 << 22 | 2);
+            Due.is("none behind them", x.enter(0, 0), 4);
+        }
+        FeignedSuit y = Suits.suit(new String[] {"give A"}, "have X", "B");
+        y.open(0, 5, 5);
+        y.mark(0);
+        y.roll(0, 5);
+        y.enter(0, 0);
+        y.mark(1);
+        y.back(0);
+        y.roll(0, 6);
+        y.enter(0, 0);
+        Due.is("in another year", y.judged(0, 0), 0);
+        y.back(1);
+        Due.is("in its year", y.judged(0, 0), 1);
+    }
+
+    private static void searchByItsOwnTerms() {
+        Due.says("the SEARCH, as they are; gone back to, these are as they were");
+        FeignedSuit x = Suits.suit(new String[] {"give B", "give C", "give D"}, "have A", "A");
+        Told.tell(x, GIFT, "have A;stop B");
+        Told.tell(x, WISH, "C and D");
+        x.open(2, 5, 5);
+        x.search(1, 1, 5, -1);
+        x.mark(0);
+        x.search(0, 0, 4, 0);
+        x.back(0);
+        Due.is("by its gift, its wish and its year", x.go(4000), 2);
+        searchStands(x, 2, 4, 2, 2);
+        int[] met = {1, 5, 9, 13};
+        for (int k = 0; k < met.length; k++) {
+            Due.is("met(" + k + ")", x.met(k), met[k]);
+        }
+        // Behind another mark's search, too.
+        x.search(0, 1, 4, 0);
+        x.mark(1);
+        x.back(0);
+        x.mark(2);
+        x.back(1);
+        Due.is("go", x.go(4000), 4);
+        searchStands(x, 3, 4, 4, -1);
+        x.back(2);
+        Due.is("go", x.go(4000), 2);
+        searchStands(x, 2, 4, 2, 2);
+    }
+
+    private static void rowAsItWas() {
+        Due.says("the SEARCH, as they are; gone back to, these are as they were");
+        FeignedSuit x = Suits.suit(new String[] {"give B", "need B;give C", "need B or D;give D", "need B;give E"},
+                "have A", "D");
+        Told.tell(x, WISH, "C and E");
+        x.search(0, 0, 0, -1);
+        x.go(4000);
+        x.mark(0);
+        x.search(0, 1, 0, -1);
+        x.go(4000);
+        searchStands(x, 2, 7, 3, 3);
+        x.mark(1);
+        x.back(0);
+        searchStands(x, 2, 4, 2, 2);
+        Due.is("row(0)", x.row(0), 0);
+        Due.is("row(1)", x.row(1), 2);
+        Due.is("row(2)", x.row(2), -1);
+        x.back(1);
+        Due.is("row(0)", x.row(0), 0);
+        Due.is("row(1)", x.row(1), 1);
+        Due.is("row(2)", x.row(2), 3);
+        x.search(0, 1, 0, 2);
+        x.go(4000);
+        x.back(0);
+        Due.is("row(1)", x.row(1), 2);
     }
 
     private static void searchAsItWas() {

@@ -301,6 +301,9 @@ public final class NameBoundsTest {
         Due.is("500 states without it", y.keys(0, 0, 0), 1L << last);
         FeignedSuit z = Suits.wide(10, "W");
         Due.is("spent without each", z.keys(0, 0, 0), 0);
+        FeignedSuit w = Suits.wide(9, "W");
+        Due.is("spent with all", w.reached(0, 0, 0), 4);
+        Due.is("256 states without each", w.keys(0, 0, 0), 511);
     }
 
     private static void keysRefused() {

@@ -12,6 +12,9 @@ public final class SearchBoundsTest {
         searchRefused();
         metLongestAgo();
         byNumbersOfMoves();
+        byItsGiftWishAndYear();
+        ifItWasNotYetMet();
+        farStatesMet();
         foundAsSoonAs();
         foundAtFirst();
         noneLeads();
@@ -146,6 +149,85 @@ public final class SearchBoundsTest {
         y.search(0, 0, 0, -1);
         y.go(1);
         Due.is("the lowest that may be made", y.row(0), 1);
+    }
+
+    private static void byItsGiftWishAndYear() {
+        Due.says("A SEARCH is begun by a GIFT, a WISH, a YEAR, from a STATE");
+        FeignedSuit x = Suits.suit(new String[] {"give B", "give C", "give D"}, "have A;stop B", "D");
+        Due.is("gift", Told.tell(x, GIFT, "have A;stop C"), 1);
+        Due.is("wish", Told.tell(x, WISH, "of ABCD = 4"), 1);
+        x.open(2, 5, 5);
+        x.search(0, 0, 5, -1);
+        x.go(4000);
+        standing(x, 2, 3, 1, 1);
+        Due.is("by gift 0 no B is met", x.met(1), 5);
+        x.search(1, 1, 5, -1);
+        x.go(4000);
+        standing(x, 3, 4, 4, -1);
+        Due.is("by gift 1 no C is met", x.met(1), 3);
+        x.search(0, 0, 4, -1);
+        x.go(4000);
+        standing(x, 3, 2, 2, -1);
+        Due.is("questions between do not change it", x.search(1, 1, 5, -1), true);
+        x.reached(0, 0, 4);
+        x.last(0, 0, 0, 9);
+        x.may(0, 4, 0, 0);
+        x.keys(0, 0, 4);
+        x.go(4000);
+        standing(x, 3, 4, 4, -1);
+    }
+
+    private static void ifItWasNotYetMet() {
+        Due.says("the STATE AFTER it is MET, if it was not yet.");
+        int[] starts = {0, Suits.X, 1 << 20, 5 << 18, 1 << 22 | 1 << 19, 7 << 21, 3 << 19, 63 << 18, 21 << 18};
+        for (int first : new int[] {0, 3, 7}) {
+            String[] moves = new String[11];
+            for (int i = 0; i < moves.length; i++) {
+                moves[i] = "give " + Suits.letter(first + i);
+            }
+            FeignedSuit x = Suits.suit(moves, "have W", "A and not A");
+            for (int start : starts) {
+                Due.is("search from " + start, x.search(0, 0, 0, start), true);
+                Due.is("go", x.go(4000), 2048);
+                standing(x, 3, 2048, 2048, -1);
+            }
+        }
+    }
+
+    /**
+     * States that lie in the last slots and the first ones of a table by multiplication, so that they go round it.
+     */
+    private static void farStatesMet() {
+        Due.says("the STATE AFTER it is MET, if it was not yet.");
+        int[] states = new int[40];
+        int found = 0;
+        for (int state = 1; state < Suits.ALL_RIGHTS && found < states.length; state++) {
+            int slot = (state * -1640531527) >>> 32 - 13;
+            if (slot == 8191 && found < 20 || slot == 0 && found >= 20) {
+                states[found] = state;
+                found++;
+            }
+        }
+        Due.is("states", found, 40);
+        String[] moves = new String[40];
+        for (int i = 0; i < 40; i++) {
+            StringBuilder b = new StringBuilder("end ABCDEFGHIJKLMNOPQRSTUVWX;give ");
+            for (int right = 0; right < 24; right++) {
+                b.append((states[i] >> right & 1) == 0 ? "" : Suits.letter(right));
+            }
+            moves[i] = b.toString();
+        }
+        FeignedSuit x = Suits.suit(moves, "stop A and not A", "A and not A");
+        for (int again = 0; again < 2; again++) {
+            x.search(0, 0, 0, -1);
+            Due.is("go", x.go(4000), 41);
+            standing(x, 3, 41, 41, -1);
+            for (int i = 0; i < 40; i++) {
+                Due.is("met(" + (i + 1) + ")", x.met(i + 1), states[i]);
+            }
+        }
+        Due.is("reached", x.reached(0, 0, 0), 3);
+        Due.is("reached again", x.reached(0, 0, 0), 3);
     }
 
     private static void foundAsSoonAs() {

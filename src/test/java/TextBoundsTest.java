@@ -19,7 +19,10 @@ public final class TextBoundsTest {
         tapeIsCut();
         tapeIsText();
         textsOfFourHundredBytes();
+        bytesBehindTheEnd();
+        faultsLeaveNothing();
         asManyAsCanBe();
+        allSortsAtOnce();
         noSuchSort();
         rightsFromAToX();
         rightsInRows();
@@ -134,6 +137,59 @@ public final class TextBoundsTest {
         }
     }
 
+    /** What was cut off is not looked at, whatever it was. */
+    private static void bytesBehindTheEnd() {
+        Due.says("The TAPE has its first n bytes alone");
+        String[] texts = {"need A and not of BC<=2;give AB;end C;days 12;fee 345;lend 6;turn 7 if [A or B]",
+            "have AB;stop of AB>=1 or not [A and B]", "not [A or of BC<=12] and D", "of A>1 or B and not C"};
+        String[] behind = {"", "=", "1", "a", "s", "A", " ", ";", "]", "not A", "\u00ff"};
+        for (int sort = 0; sort < 4; sort++) {
+            for (int n = 0; n <= texts[sort].length(); n++) {
+                String kept = texts[sort].substring(0, n);
+                int want = Told.tell(new FeignedSuit(), sort, kept);
+                for (String cut : behind) {
+                    FeignedSuit x = new FeignedSuit();
+                    Told.put(x, kept + cut);
+                    Due.is("end", x.end(n), n);
+                    Due.is("'" + kept + "' with '" + cut + "' cut off", x.text(sort), want);
+                }
+            }
+        }
+        // At the end of a full tape there is nothing behind.
+        String blanks = Suits.repeated(" ", 397, "");
+        Told.faulty(WISH, blanks + "not", 400, WRONG);
+        Told.faulty(WISH, blanks + "A<=", 398, WRONG);
+        Told.faulty(WISH, Suits.repeated(" ", 395, "") + "of A<", 400, WRONG);
+        Told.good(WISH, Suits.repeated(" ", 393, "") + "of A>12");
+    }
+
+    private static void faultsLeaveNothing() {
+        Due.says("-2 - its FAULT");
+        String[] faulty = {"not", "not not not", "[", "[[not [", "A or", "A or [B and", "not [A or B and not", "A and B or",
+            "of A<", "of AB > 25", "[[[[[[[[[[[", "[A", "not A or not [B and C", Suits.repeated("A", 61, "or "), "days"};
+        for (String text : faulty) {
+            FeignedSuit x = new FeignedSuit();
+            for (int sort = 0; sort < 4; sort++) {
+                String whole = sort == MOVE ? "give AB;days 1;fee 1;turn 1 if " + text
+                        : sort == GIFT ? "have AB;stop " + text : text;
+                Due.is("fault of '" + whole + "'", Told.tell(x, sort, whole) < -2, true);
+                Due.is("none told", x.count(sort), 0);
+            }
+            Due.is("a wish behind '" + text + "'", Told.tell(x, WISH, "A or B and C"), 0);
+            for (int state = 0; state < 8; state++) {
+                boolean want = (state & 1) != 0 || (state & 6) == 6;
+                Due.is("of " + state + " behind '" + text + "'", x.wished(0, state), want ? 1 : 0);
+            }
+            Due.is("a move behind '" + text + "'", Told.tell(x, MOVE, "need C;give D;turn 3 if B;days 2;fee 2"), 0);
+            Due.is("what it gives", x.after(0, 4), 12);
+            Due.is("who could turn", x.turned(0, 3), 8);
+            Due.is("a gift behind '" + text + "'", Told.tell(x, GIFT, "have C;stop A"), 0);
+            Due.is("its first state", x.first(0), 4);
+            Due.is("its stop", x.may(0, 0, 0, 5), 0);
+            Due.is("no other stop", x.may(0, 0, 0, 6), 1);
+        }
+    }
+
     private static void tapeIsText() {
         Due.says("The TAPE, which is empty then, is a text");
         for (int sort = 0; sort < 4; sort++) {
@@ -213,6 +269,35 @@ public final class TextBoundsTest {
         }
         Told.put(x, "A and B");
         return x;
+    }
+
+    /** A suit that is full of all sorts, and each text in its own place. */
+    private static void allSortsAtOnce() {
+        Due.says("WISHES 0 to 15 and STOPS 0 to 7: a TEST each.");
+        FeignedSuit x = new FeignedSuit();
+        for (int i = 0; i < 40; i++) {
+            if (i < 8) {
+                Due.is("gift", Told.tell(x, GIFT, "have " + Suits.letter(i)), i);
+                Due.is("stop", Told.tell(x, STOP, "" + Suits.letter(i)), i);
+            }
+            if (i < 16) {
+                Due.is("wish", Told.tell(x, WISH, "" + Suits.letter(i)), i);
+            }
+            Due.is("move", Told.tell(x, MOVE, "give " + Suits.letter(i % 24) + ";turn " + i % 16), i);
+        }
+        for (int i = 0; i < 40; i++) {
+            if (i < 8) {
+                Due.is("gift " + i, x.first(i), 1 << i);
+                Due.is("stop " + i, x.force(1 << i), i == 0 ? 0 : 1 << i - 1);
+                Due.is("it bars", x.may(0, 0, i, 0), 0);
+                Due.is("and nothing else", x.may(0, 0, i + 1, 0), 1);
+            }
+            if (i < 16) {
+                Due.is("wish " + i, x.wished(i, 1 << i), 1);
+            }
+            Due.is("move " + i, x.after(i, 0), 1 << i % 24);
+            Due.is("who could turn at move " + i, x.turned(i, 0), 1 << i % 16);
+        }
     }
 
     private static void noSuchSort() {
