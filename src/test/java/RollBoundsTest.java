@@ -14,7 +14,7 @@ public final class RollBoundsTest {
         enterRefused();
         judgedOneAfterTheOther();
         judgedByStopsAsTheyAre();
-        judgedRefused();
+        rollsThatAreNotThere();
         feignedFor();
         barredAndSleeping();
         riskOfMoves();
@@ -32,7 +32,7 @@ public final class RollBoundsTest {
     }
 
     private static void thirtyRolls() {
-        Due.says("A ROLL: its number; NONE: there are 30, or something is not as told.");
+        Due.says("ROLLS 0 to 29: of a GIFT, a YEAR, with MOVES, 24 at most.");
         FeignedSuit x = thirty();
         Due.is("a roll too many", x.roll(0, 0), -1);
         Due.is("how many", x.count(4), 30);
@@ -114,13 +114,13 @@ public final class RollBoundsTest {
     }
 
     private static void judgedOneAfterTheOther() {
-        Due.says("JUDGED what 0: which MOVE (from 0 on) may not be made (as many as it has: all may), 1: the STATE. NONE "
-                + "without these.");
+        Due.says("JUDGED: its MOVES one after the other from the first STATE of the GIFT");
         FeignedSuit x = Suits.suit(new String[] {"need A;give B", "need B;give C", "need C;end A", "give C"},
                 "have A;stop D", "C");
         x.roll(0, 0);
         Due.is("none entered", x.judged(0, 0), 0);
         Due.is("the first state", x.judged(0, 1), 1);
+        Due.says("what STATE there is ahead of it (or at the end).");
         int[] moves = {0, 1, 2, 1, 2};
         int[] made = {1, 2, 3, 3, 3};
         int[] state = {3, 7, 6, 6, 6};
@@ -158,23 +158,38 @@ public final class RollBoundsTest {
         Due.is("open in it alone", x.judged(0, 0), 2);
     }
 
-    private static void judgedRefused() {
-        Due.says("NONE without these.");
+    private static void rollsThatAreNotThere() {
+        Due.says("JUDGED what 0: which MOVE (from 0 on) may not be made (as many as it has: all may), 1: the STATE. NONE "
+                + "without these.");
         House.leavesNoTrace("judged", h -> h.judged(0, 1), 6);
+        refusedOfTwo("judged", FeignedSuit::judged);
+        Due.says("What 0: BARRED, 1: SLEEP, as bits; NONE without these.");
+        refusedOfTwo("claims", FeignedSuit::claims);
+        Due.says("COSTS what 0: fees, 1: days; NONE without these.");
+        refusedOfTwo("costs", FeignedSuit::costs);
+        Due.says("FEIGNED: WISHES as bits; NONE without it.");
         for (int roll : BAD_ROLLS) {
-            House.leavesNoTrace("judged(" + roll + ", 0)", h -> h.judged(roll, 0), -1);
-            House.leavesNoTrace("judged(" + roll + ", 1)", h -> h.judged(roll, 1), -1);
             House.leavesNoTrace("feigned(" + roll + ")", h -> h.feigned(roll), -1);
-            House.leavesNoTrace("claims(" + roll + ", 0)", h -> h.claims(roll, 0), -1);
-            House.leavesNoTrace("claims(" + roll + ", 1)", h -> h.claims(roll, 1), -1);
+        }
+        Due.says("RISK of the k-th MOVE, as bits; NONE without it");
+        for (int roll : BAD_ROLLS) {
             House.leavesNoTrace("risk(" + roll + ", 0)", h -> h.risk(roll, 0), -1);
-            House.leavesNoTrace("costs(" + roll + ", 0)", h -> h.costs(roll, 0), -1);
-            House.leavesNoTrace("costs(" + roll + ", 1)", h -> h.costs(roll, 1), -1);
+        }
+    }
+
+    private interface OfTwo {
+        int on(FeignedSuit x, int roll, int what);
+    }
+
+    private static void refusedOfTwo(String name, OfTwo call) {
+        for (int roll : BAD_ROLLS) {
+            for (int what = 0; what < 2; what++) {
+                int known = what;
+                House.leavesNoTrace(name + "(" + roll + ", " + what + ")", h -> call.on(h, roll, known), -1);
+            }
         }
         for (int what : BAD_WHATS) {
-            House.leavesNoTrace("judged(0, " + what + ")", h -> h.judged(0, what), -1);
-            House.leavesNoTrace("claims(0, " + what + ")", h -> h.claims(0, what), -1);
-            House.leavesNoTrace("costs(0, " + what + ")", h -> h.costs(0, what), -1);
+            House.leavesNoTrace(name + "(0, " + what + ")", h -> call.on(h, 0, what), -1);
         }
     }
 
@@ -243,6 +258,7 @@ public final class RollBoundsTest {
         House.leavesNoTrace("risk", h -> h.risk(0, 1), 8);
         House.leavesNoTrace("risk refused", h -> h.risk(0, 2), -1);
         // By the state ahead of the move, not the first one nor the one behind it.
+        Due.says("RISK of its k-th MOVE: who could TURN at it (MOVES that may be made alone).");
         FeignedSuit y = Suits.suit(new String[] {"give B", "give C;turn 1 if B;turn 2 if C;turn 3 if not B"}, "have A", "C");
         y.roll(0, 0);
         y.enter(0, 0);

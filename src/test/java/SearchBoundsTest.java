@@ -321,7 +321,7 @@ public final class SearchBoundsTest {
     }
 
     private static void foundAtTheBound() {
-        Due.says("FOUND (2) as soon as a STATE MET is as wished");
+        Due.says("Its ROW: the MOVES by which the STATE that was as wished was MET, from the first one on.");
         FeignedSuit x = Suits.chain(4001, Suits.numberInChain(3999, 4001), "");
         x.search(0, 0, 0, -1);
         Due.is("go to the 4000th", x.go(4000), 3999);
@@ -339,6 +339,11 @@ public final class SearchBoundsTest {
     }
 
     private static void goBounds() {
+        Due.says("else it GOES (1); 0 ahead of any.");
+        FeignedSuit none = Suits.suit(new String[] {"give A"}, "have X", "A");
+        standing(none, 0, 0, 0, -1);
+        none.search(0, 0, 0, -1);
+        standing(none, 1, 1, 0, -1);
         Due.says("The SEARCH goes on by n STATES (1 to 4000), as long as it GOES: through how many it went");
         FeignedSuit x = Suits.chain(20, "W", "");
         for (int n : new int[] {1, 2, 19, 20, 21, 3999, 4000}) {
@@ -435,7 +440,8 @@ public final class SearchBoundsTest {
     }
 
     private static void soughtBounds() {
-        Due.says("(0 to 2 are 0 ahead of any SEARCH), 3: how many MOVES its ROW has (NONE: not FOUND). NONE for others.");
+        Due.says("Of the SEARCH what 0: 0 to 4, as it is, 1: STATES MET, 2: gone through (0 to 2 are 0 ahead of any SEARCH), "
+                + "3: how many MOVES its ROW has (NONE: not FOUND). NONE for others.");
         FeignedSuit x = Suits.suit(new String[] {"give B"}, "have A", "B");
         standing(x, 0, 0, 0, -1);
         int[] others = {-1, 4, 5, -2, Suits.LOW, Suits.HIGH};
@@ -524,7 +530,7 @@ public final class SearchBoundsTest {
     }
 
     private static void reachedAsTold() {
-        Due.says("REACHED: 2, 3, 4; NONE without these.");
+        Due.says("REACHED is a WISH by a GIFT in a YEAR, by told MOVES alone");
         FeignedSuit x = Suits.suit(new String[] {"give B"}, "have A", "B");
         Due.is("found", x.reached(0, 0, 0), 2);
         x.open(0, 10, 20);

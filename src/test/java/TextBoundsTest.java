@@ -273,7 +273,7 @@ public final class TextBoundsTest {
 
     /** A suit that is full of all sorts, and each text in its own place. */
     private static void allSortsAtOnce() {
-        Due.says("WISHES 0 to 15 and STOPS 0 to 7: a TEST each.");
+        Due.says("MOVES 0 to 39: CLAUSE { ; CLAUSE }");
         FeignedSuit x = new FeignedSuit();
         for (int i = 0; i < 40; i++) {
             if (i < 8) {
@@ -334,6 +334,7 @@ public final class TextBoundsTest {
             Due.is("a move", Told.tell(x, MOVE, "end " + right), 1);
             Due.is("ends it", x.after(1, Suits.ALL_RIGHTS), Suits.ALL_RIGHTS - (1 << i));
         }
+        Due.says("A RIGHT is a capital letter A to X");
         for (String no : new String[] {"@", "Y", "Z", "a", "x", "\u00c1", "\u00d8"}) {
             Told.faulty(WISH, no, 0, WRONG);
             Told.faulty(STOP, "not " + no, 4, WRONG);
@@ -412,14 +413,17 @@ public final class TextBoundsTest {
             Told.faulty(sort, PLAIN[sort] + ";;" + PLAIN[sort], 7, WRONG);
             Told.faulty(sort, PLAIN[sort] + " " + PLAIN[sort], 7, WRONG);
         }
+        Due.says("CLAUSE: need TEST | give RIGHTS | end RIGHTS | days NUMBER");
         for (String word : new String[] {"have", "stop", "if", "and", "or", "not", "of", "needs", "nee", "x"}) {
             Told.faulty(MOVE, word + " A", 0, WRONG);
             Told.faulty(MOVE, "give A;" + word + " A", 7, WRONG);
         }
+        Due.says("CLAUSES likewise: have RIGHTS | stop TEST.");
         for (String word : new String[] {"need", "give", "end", "days", "fee", "lend", "turn", "if", "haves", "sto"}) {
             Told.faulty(GIFT, word + " A", 0, WRONG);
             Told.faulty(GIFT, "have A;" + word + " A", 7, WRONG);
         }
+        Due.says("WISHES 0 to 15 and STOPS 0 to 7: a TEST each.");
         for (int sort : new int[] {WISH, STOP}) {
             Told.faulty(sort, "A;B", 1, WRONG);
             Told.faulty(sort, "A B", 2, WRONG);
@@ -427,6 +431,7 @@ public final class TextBoundsTest {
             Told.faulty(sort, "stop A", 0, WRONG);
             Told.faulty(sort, "A if B", 2, WRONG);
         }
+        Due.says("turn NUMBER (0 to 15) [ if TEST ]");
         Told.good(MOVE, "turn 0");
         Told.good(MOVE, "turn 0 if A");
         Told.faulty(MOVE, "turn 0 if", 9, WRONG);
